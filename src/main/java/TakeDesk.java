@@ -721,7 +721,7 @@ public final class TakeDesk {
         }
 
         int startOf(int b) {
-            return FRAME_SIZE * frameAt(b);
+            return b >= 0 && b <= MOST_BEATS ? FRAME_SIZE * frames[b] : 0;
         }
 
         int worthAt(int b) {
@@ -738,7 +738,10 @@ public final class TakeDesk {
         }
     }
 
-    /** The table of least distance: the sum from each beat at each frame on to the take's last beat. */
+    /**
+     * The table of least distance: the sum from each beat at each frame on to the take's last beat. Each
+     * beat needs a frame for every beat ahead of it and behind it, so its lowest and highest rise by one.
+     */
     private static final class Layer {
         final int[] levels = new int[MOST_FRAMES];
         final int[] sums = new int[MOST_BEATS * MOST_FRAMES];
@@ -750,12 +753,14 @@ public final class TakeDesk {
             for (int f = 0; f < frameCount; f++) {
                 levels[f] = take.levelAt(f);
             }
+            int highest = frameCount - 1;
             for (int b = take.last; b >= take.first; b--) {
-                for (int f = 0; f < frameCount; f++) {
-                    sumUp(take, score, b, f, frameCount);
+                for (int f = b - take.first; f <= highest; f++) {
+                    sumUp(take, score, b, f, highest + 1);
                 }
+                highest--;
             }
-            int start = leastStart(take.first, frameCount);
+            int start = leastStart(take.first, highest + 1);
             if (start < 0) {
                 return NO_SUM;
             }
@@ -763,24 +768,24 @@ public final class TakeDesk {
             return sums[take.first * MOST_FRAMES + start];
         }
 
-        private void sumUp(Take take, Score score, int b, int f, int frameCount) {
+        private void sumUp(Take take, Score score, int b, int f, int highestNext) {
             int cell = b * MOST_FRAMES + f;
             sums[cell] = NO_SUM;
             nextFrames[cell] = f;
             if (take.hands[b] >= 0 && take.hands[b] != f) {
                 return;
             }
-            int rest = b == take.last ? 0 : leastRest(b, f, score.lengths[b], frameCount);
+            int rest = b == take.last ? 0 : leastRest(b, f, score.lengths[b], highestNext);
             if (rest != NO_SUM) {
                 sums[cell] = Math.abs(levels[f] - score.loudness[b]) + rest;
             }
         }
 
         /** Only a smaller sum takes the place of one before: the first frames win among alike ones. */
-        private int leastRest(int b, int f, int length, int frameCount) {
+        private int leastRest(int b, int f, int length, int highestNext) {
             int least = NO_SUM;
             int below = (b + 1) * MOST_FRAMES;
-            for (int next = f + 1; next < frameCount; next++) {
+            for (int next = f + 1; next <= highestNext; next++) {
                 int rest = sums[below + next];
                 if (rest == NO_SUM) {
                     continue;
@@ -794,10 +799,10 @@ public final class TakeDesk {
             return least;
         }
 
-        private int leastStart(int first, int frameCount) {
+        private int leastStart(int first, int highest) {
             int start = -1;
             int least = NO_SUM;
-            for (int f = 0; f < frameCount; f++) {
+            for (int f = 0; f <= highest; f++) {
                 int sum = sums[first * MOST_FRAMES + f];
                 if (sum != NO_SUM && (least == NO_SUM || sum < least)) {
                     least = sum;
@@ -901,7 +906,8 @@ public final class TakeDesk {
 
         private static void listen(int[] into, int size, Take take, int begin) {
             for (int i = 0; i < size && i < into.length; i++) {
-                into[i] = take.soundAt(begin + i);
+                int at = begin + i;
+                into[i] = at >= 0 && at < take.count ? take.samples[at] : 0;
             }
         }
 
@@ -953,7 +959,7 @@ public final class TakeDesk {
             for (int b = score.beats - 1; b >= 0; b--) {
                 for (int t = 0; t < TAKES; t++) {
                     int base = cellOf(b, t, 0);
-                    Arrays.fill(keys, base, base + k + 1, NO_WAY);
+                    fillCells(base, k + 1, NO_WAY);
                     if (fits(t, b) && b == score.beats - 1) {
                         keys[base] = gainOf(t, b);
                     } else if (fits(t, b)) {
@@ -962,7 +968,7 @@ public final class TakeDesk {
                     }
                 }
             }
-            Arrays.fill(keys, TOP_CELLS, TOP_CELLS + k + 1, NO_WAY);
+            fillCells(TOP_CELLS, k + 1, NO_WAY);
             Arrays.fill(steps, 0);
             merge(0, k, TOP_CELLS, 0);
             return trace(TOP_CELLS + k);
@@ -1005,7 +1011,7 @@ public final class TakeDesk {
                 for (int t = 0; t < TAKES; t++) {
                     int base = cellOf(b, t, 0);
                     boolean ends = b == score.beats - 1 && fits(t, b);
-                    Arrays.fill(keys, base, base + most + 1, ends ? gainOf(t, b) : NO_WAY);
+                    fillCells(base, most + 1, ends ? gainOf(t, b) : NO_WAY);
                     if (!ends && fits(t, b)) {
                         weighSteps(b, t);
                         offerSteps(b, t, most);
@@ -1036,6 +1042,12 @@ public final class TakeDesk {
             if (keys[link] != NO_WAY && (keys[cell] == NO_WAY || keys[link] + gain > keys[cell])) {
                 keys[cell] = keys[link] + gain;
                 links[cell] = link;
+            }
+        }
+
+        private void fillCells(int base, int size, int key) {
+            for (int i = 0; i < size; i++) {
+                keys[base + i] = key;
             }
         }
 
