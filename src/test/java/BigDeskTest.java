@@ -9,7 +9,9 @@ final class BigDeskTest {
 
     public static void main(String[] args) {
         for (int seed = 0; seed < 40; seed++) {
-            bigDesk(seed);
+            layings(seed);
+            bestInOrder(seed);
+            fewInOrder(seed);
         }
         for (int seed = 0; seed < 3000; seed++) {
             anyCalls(seed);
@@ -17,10 +19,15 @@ final class BigDeskTest {
         due.end();
     }
 
-    private static void bigDesk(int seed) {
+    private static int beatsOf(int seed) {
+        return seed % 2 == 0 ? 24 : 10 + new Random(seed).nextInt(15);
+    }
+
+    /** The same desk each time it is asked for: one desk's 512 calls don't do for all that is looked at. */
+    private static Desk bigDesk(int seed) {
         Random random = new Random(seed);
-        int beats = seed % 2 == 0 ? 24 : 10 + random.nextInt(15);
-        TakeDesk x = new TakeDesk();
+        int beats = beatsOf(seed);
+        Desk x = new Desk();
         x.score(beats);
         x.set(0, 1 + random.nextInt(20));
         x.set(1, random.nextInt(10));
@@ -35,28 +42,29 @@ final class BigDeskTest {
                 x.mark(t, random.nextInt(beats), random.nextInt(4));
             }
             due.holds("13: there is a laying", x.lay(t) >= 0);
-            risingFrames(x, t, beats);
         }
         for (int n = 0; n < 3; n++) {
             x.bar(1 + random.nextInt(beats - 1), true);
         }
         x.keep(random.nextInt(beats), 0);
-        bestInOrder(x, beats, seed);
-        fewInOrder(x, beats, seed);
+        return x;
     }
 
-    private static void risingFrames(TakeDesk x, int t, int beats) {
-        int ahead = -1;
-        for (int b = 0; b < beats; b++) {
-            int f = x.frame(t, b);
-            if (f != Due.BEYOND) {
-                due.holds("13: frames rise", f > ahead && f < 40);
-                ahead = f;
+    private static void layings(int seed) {
+        Desk x = bigDesk(seed);
+        for (int t = 0; t < 6; t++) {
+            int ahead = -1;
+            for (int b = 0; b < beatsOf(seed); b++) {
+                int f = x.frame(t, b);
+                if (f != Due.BEYOND) {
+                    due.holds("13: frames rise", f > ahead && f < 40);
+                    ahead = f;
+                }
             }
         }
     }
 
-    private static int[] wayOf(TakeDesk x, int beats) {
+    private static int[] wayOf(Desk x, int beats) {
         int[] way = new int[beats];
         for (int b = 0; b < beats; b++) {
             way[b] = x.way(b);
@@ -64,20 +72,23 @@ final class BigDeskTest {
         return way;
     }
 
-    private static void bestInOrder(TakeDesk x, int beats, int seed) {
+    private static void bestInOrder(int seed) {
         int[] aheadWay = null;
         int aheadValue = 0;
         int aheadJoins = 0;
         List<String> seen = new ArrayList<>();
         for (int k = 0; k < 20; k++) {
+            Desk x = bigDesk(seed);
             int value = x.best(k);
-            int[] way = wayOf(x, beats);
+            int[] way = wayOf(x, beatsOf(seed));
             int joins = x.joins();
             String name = "23: desk " + seed + ", best(" + k + ")";
             due.holds(name + " is a new way", !seen.contains(Arrays.toString(way)));
             seen.add(Arrays.toString(way));
             tellBack(x, way, value, name);
-            heardAll(x, way, name);
+            if (k % 6 == 0) {
+                heardAll(seed, k, way, name);
+            }
             if (aheadWay != null) {
                 boolean behind = value < aheadValue || value == aheadValue
                     && (joins > aheadJoins || joins == aheadJoins && Arrays.compare(way, aheadWay) > 0);
@@ -89,7 +100,7 @@ final class BigDeskTest {
         }
     }
 
-    private static void tellBack(TakeDesk x, int[] way, int value, String name) {
+    private static void tellBack(Desk x, int[] way, int value, String name) {
         for (int t : way) {
             x.tell(t);
         }
@@ -97,41 +108,51 @@ final class BigDeskTest {
         due.is(name + ", told back", x.check(), 0);
     }
 
-    private static void heardAll(TakeDesk x, int[] way, String name) {
+    private static void heardAll(int seed, int k, int[] way, String name) {
+        Desk x = bigDesk(seed);
+        x.best(k);
         int made = x.made();
         int beat = 0;
         for (int i = 0; i < made; i++) {
+            if (x.left() < 7) {
+                x = bigDesk(seed);
+                x.best(k);
+            }
             int row = x.from(i, 2);
             due.holds(name + ", rows rise", row >= beat);
             beat = row;
-            due.is(name + ", the row's take", x.from(i, 0), way[row]);
+            int take = x.from(i, 0);
+            due.is(name + ", the row's take", take, way[row]);
             int sound = x.heard(i);
             due.holds(name + ", sounds are -100 to 100", sound >= -100 && sound <= 100);
             if (x.from(i, 3) == 0) {
-                due.is(name + ", a sample as it is", sound, x.sample(x.from(i, 0), x.from(i, 1)));
+                due.is(name + ", a sample as it is", sound, x.sample(take, x.from(i, 1)));
             }
         }
         due.is(name + ", no more", x.heard(made), Due.BEYOND);
     }
 
-    private static void fewInOrder(TakeDesk x, int beats, int seed) {
-        int best = x.best(0);
-        int[] bestWay = wayOf(x, beats);
-        int bestJoins = x.joins();
+    private static void fewInOrder(int seed) {
+        Desk first = bigDesk(seed);
+        int best = first.best(0);
+        int[] bestWay = wayOf(first, beatsOf(seed));
+        int bestJoins = first.joins();
         int ahead = Integer.MIN_VALUE;
         for (int j = 0; j <= 24; j++) {
+            Desk x = bigDesk(seed);
             int value = x.few(j);
             if (value == Due.NONE) {
                 due.holds("24: none with " + j + " joins, none with fewer", ahead == Integer.MIN_VALUE && j < bestJoins);
                 continue;
             }
             String name = "24: desk " + seed + ", few(" + j + ")";
+            int[] way = wayOf(x, beatsOf(seed));
             due.holds(name + " has no more joins", x.joins() <= j);
             due.holds(name + " is no less than with fewer", value >= ahead);
-            tellBack(x, wayOf(x, beats), value, name);
+            tellBack(x, way, value, name);
             if (j >= bestJoins) {
                 due.is(name + " is the best", value, best);
-                due.holds(name + " is the best way", Arrays.equals(wayOf(x, beats), bestWay));
+                due.holds(name + " is the best way", Arrays.equals(way, bestWay));
             }
             ahead = value;
         }
@@ -153,7 +174,7 @@ final class BigDeskTest {
     /** What the machine throws ends this test. */
     private static void anyCalls(int seed) {
         Random r = new Random(seed);
-        TakeDesk x = new TakeDesk();
+        Desk x = new Desk();
         for (int n = 0; n < 512; n++) {
             int a = any(r);
             int b = any(r);

@@ -16,7 +16,7 @@ final class JoinsTest {
     }
 
     private static void setItself() {
-        TakeDesk x = new TakeDesk();
+        Desk x = new Desk();
         int[] least = {1, 0, 0, 0};
         int[] most = {20, 9, 1000, 9};
         int[] first = {8, 3, 200, 4};
@@ -35,7 +35,7 @@ final class JoinsTest {
     }
 
     private static void findingsOfJoins() {
-        TakeDesk x = new TakeDesk();
+        Desk x = new Desk();
         due.is("18: no take s", x.like(6, 0, 0, 0), Due.BEYOND);
         due.is("18: no take t", x.like(0, -1, 0, 0), Due.BEYOND);
         due.is("18: d ahead of missing", x.like(0, 1, 0, 21), Due.BEYOND);
@@ -70,8 +70,8 @@ final class JoinsTest {
     }
 
     /** Two takes of 4 frames for 4 beats: beat b is at frame b, and starts at sample 10 b. */
-    private static TakeDesk twoTakes() {
-        TakeDesk x = new TakeDesk();
+    private static Desk twoTakes() {
+        Desk x = new Desk();
         for (int t = 0; t < 2; t++) {
             x.take(t, 0, 0, 0, 0);
             x.play(t, 40, 0, 0);
@@ -80,7 +80,7 @@ final class JoinsTest {
     }
 
     private static void likeItself() {
-        TakeDesk x = twoTakes();
+        Desk x = twoTakes();
         x.set(0, 2);
         x.put(0, 18, 10);
         x.put(0, 19, -20);
@@ -115,7 +115,7 @@ final class JoinsTest {
     }
 
     private static void likeBehindTheLastBeat() {
-        TakeDesk x = new TakeDesk();
+        Desk x = new Desk();
         x.beat(1, 100, 5);
         x.take(0, 1, 0, 1, 0);
         x.take(1, 1, 2, 3, 0);
@@ -141,7 +141,7 @@ final class JoinsTest {
     }
 
     private static void shiftItself() {
-        TakeDesk x = twoTakes();
+        Desk x = twoTakes();
         x.set(0, 3);
         x.put(0, 20, 50);
         x.put(1, 22, 50);
@@ -179,7 +179,7 @@ final class JoinsTest {
     }
 
     private static void costItself() {
-        TakeDesk x = twoTakes();
+        Desk x = twoTakes();
         x.set(0, 1);
         x.put(0, 10, 30);
         x.put(1, 11, 30);
@@ -207,7 +207,7 @@ final class JoinsTest {
     }
 
     private static void costKnowsChanges() {
-        TakeDesk x = twoTakes();
+        Desk x = twoTakes();
         x.lay(0);
         x.lay(1);
         due.is("20: silence", x.cost(0, 1, 2), 1200);
@@ -229,7 +229,7 @@ final class JoinsTest {
     }
 
     private static void barItself() {
-        TakeDesk x = new TakeDesk();
+        Desk x = new Desk();
         due.is("21: not at beat 0", x.bar(0, true), Due.BEYOND);
         due.is("21: no beat 4", x.bar(4, true), Due.BEYOND);
         due.is("21: no beat -1", x.bar(-1, false), Due.BEYOND);
@@ -244,7 +244,7 @@ final class JoinsTest {
     }
 
     private static void keepItself() {
-        TakeDesk x = new TakeDesk();
+        Desk x = new Desk();
         due.is("22: no beat 4", x.keep(4, 0), Due.BEYOND);
         due.is("22: no beat -1", x.keep(-1, 0), Due.BEYOND);
         due.is("22: no take 6", x.keep(0, 6), Due.BEYOND);

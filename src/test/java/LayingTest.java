@@ -14,22 +14,22 @@ final class LayingTest {
         due.end();
     }
 
-    private static TakeDesk silentTake(int samples) {
-        TakeDesk x = new TakeDesk();
+    private static Desk silentTake(int samples) {
+        Desk x = new Desk();
         x.take(0, 0, 0, 0, 0);
         x.play(0, samples, 0, 0);
         return x;
     }
 
     /** Makes every sample of frame f the same: its level is that sound's square. */
-    private static void fillFrame(TakeDesk x, int t, int f, int sound) {
+    private static void fillFrame(Desk x, int t, int f, int sound) {
         for (int i = 10 * f; i < 10 * f + 10; i++) {
             x.put(t, i, sound);
         }
     }
 
     private static void handItself() {
-        TakeDesk x = new TakeDesk();
+        Desk x = new Desk();
         due.is("12: no take", x.hand(6, 0, 0), Due.BEYOND);
         due.is("12: missing ahead of beyond", x.hand(0, 9, -2), Due.MISSING);
         x.take(0, 1, 1, 2, 0);
@@ -58,7 +58,7 @@ final class LayingTest {
     }
 
     private static void layItself() {
-        TakeDesk x = new TakeDesk();
+        Desk x = new Desk();
         due.is("13: no take", x.lay(6), Due.BEYOND);
         due.is("13: no take", x.lay(-1), Due.BEYOND);
         due.is("13: missing", x.lay(0), Due.MISSING);
@@ -74,7 +74,7 @@ final class LayingTest {
     }
 
     private static void layTies() {
-        TakeDesk x = silentTake(50);
+        Desk x = silentTake(50);
         due.is("13: five frames", x.lay(0), 500);
         int[] first = {0, 1, 2, 4};
         for (int b = 0; b < 4; b++) {
@@ -90,7 +90,7 @@ final class LayingTest {
     }
 
     private static void layAtItsEdges() {
-        TakeDesk x = silentTake(30);
+        Desk x = silentTake(30);
         due.is("13: three frames for four beats", x.lay(0), Due.BARRED);
         due.is("13: not laid", x.frame(0, 0), Due.NONE);
         x.play(0, 1, 0, 0);
@@ -105,7 +105,7 @@ final class LayingTest {
         x.hand(0, 1, 2);
         x.hand(0, 2, 1);
         due.is("13: hands that fall", x.lay(0), Due.BARRED);
-        x = new TakeDesk();
+        x = new Desk();
         x.score(24);
         x.take(0, 0, 0, 0, 0);
         x.play(0, 400, 0, 0);
@@ -120,7 +120,7 @@ final class LayingTest {
     }
 
     private static void layOfParts() {
-        TakeDesk x = new TakeDesk();
+        Desk x = new Desk();
         x.score(5);
         x.beat(1, 100, 9);
         x.beat(2, 400, 2);
@@ -134,7 +134,7 @@ final class LayingTest {
     }
 
     private static void frameItself() {
-        TakeDesk x = new TakeDesk();
+        Desk x = new Desk();
         due.is("14: no take", x.frame(6, 0), Due.BEYOND);
         due.is("14: missing", x.frame(0, 0), Due.MISSING);
         x.take(0, 1, 1, 2, 0);
@@ -155,7 +155,7 @@ final class LayingTest {
     }
 
     private static void markItself() {
-        TakeDesk x = new TakeDesk();
+        Desk x = new Desk();
         due.is("15: no take", x.mark(-1, 0, 0), Due.BEYOND);
         due.is("15: missing ahead of kind", x.mark(0, 9, 9), Due.MISSING);
         x.take(0, 4, 0, 0, 0);
@@ -175,7 +175,7 @@ final class LayingTest {
     }
 
     private static void worthItself() {
-        TakeDesk x = new TakeDesk();
+        Desk x = new Desk();
         due.is("16: no take", x.worth(6, 0), Due.BEYOND);
         due.is("16: missing", x.worth(0, 9), Due.MISSING);
         int[] marks = {-300, -100, -50, 200};

@@ -14,21 +14,21 @@ final class MadeTest {
         due.end();
     }
 
-    private static void fromIs(String what, TakeDesk x, int i, int... wanted) {
+    private static void fromIs(String what, Desk x, int i, int... wanted) {
         for (int w = 0; w < wanted.length; w++) {
             due.is(what + ", from(" + i + ", " + w + ")", x.from(i, w), wanted[w]);
         }
     }
 
     private static void findingsOfMade() {
-        TakeDesk x = new TakeDesk();
+        Desk x = new Desk();
         due.is("27: none", x.made(), Due.NONE);
         due.is("28: none ahead of beyond", x.heard(-1), Due.NONE);
         due.is("29: none ahead of beyond", x.from(-1, 4), Due.NONE);
     }
 
     private static void oneTake() {
-        TakeDesk x = new TakeDesk();
+        Desk x = new Desk();
         x.take(0, 0, 0, 0, 0);
         x.play(0, 65, 100, 8);
         x.hand(0, 0, 2);
@@ -48,8 +48,8 @@ final class MadeTest {
     }
 
     /** Takes 0 (beats 0, 1 of a way) and 1 (beats 2, 3), each four frames and more, no shifts. */
-    private static TakeDesk joined(int samples) {
-        TakeDesk x = new TakeDesk();
+    private static Desk joined(int samples) {
+        Desk x = new Desk();
         for (int t = 0; t < 2; t++) {
             x.take(t, 0, 0, 0, 0);
             x.play(t, samples, 0, 0);
@@ -61,7 +61,7 @@ final class MadeTest {
         return x;
     }
 
-    private static void placeAll(TakeDesk x, int t, int... frames) {
+    private static void placeAll(Desk x, int t, int... frames) {
         for (int b = 0; b < frames.length; b++) {
             x.hand(t, b, frames[b]);
         }
@@ -69,7 +69,7 @@ final class MadeTest {
     }
 
     private static void joinWithRamp() {
-        TakeDesk x = joined(60);
+        Desk x = joined(60);
         int[] leaving = {7, -8, 9, -100, 55};
         int[] coming = {-7, 33, -100, 1, 44};
         for (int k = 0; k < 5; k++) {
@@ -103,7 +103,7 @@ final class MadeTest {
     }
 
     private static void joinWithShift() {
-        TakeDesk x = joined(60);
+        Desk x = joined(60);
         x.set(1, 3);
         x.set(0, 1);
         x.put(0, 30, 50);
@@ -129,7 +129,7 @@ final class MadeTest {
     }
 
     private static void leftOutAheadOfTheStart() {
-        TakeDesk x = new TakeDesk();
+        Desk x = new Desk();
         x.score(2);
         x.set(0, 4);
         x.take(0, 0, 0, 0, 0);
@@ -156,7 +156,7 @@ final class MadeTest {
     }
 
     private static void rowsOfParts() {
-        TakeDesk x = new TakeDesk();
+        Desk x = new Desk();
         x.set(1, 0);
         x.beat(1, 100, 2);
         x.take(0, 1, 0, 1, 0);
@@ -192,7 +192,7 @@ final class MadeTest {
     }
 
     private static void nothingLeft() {
-        TakeDesk x = new TakeDesk();
+        Desk x = new Desk();
         x.score(3);
         x.set(0, 1);
         x.set(1, 9);
@@ -243,7 +243,7 @@ final class MadeTest {
     }
 
     private static void rampOfNone() {
-        TakeDesk x = joined(60);
+        Desk x = joined(60);
         x.put(0, 30, 100);
         x.put(1, 40, 10);
         placeAll(x, 0, 1, 2, 3, 4);

@@ -2,12 +2,13 @@ import java.util.Random;
 
 /** All promises: runs of calls by a fixed seed, each answered alike by the class and the model. */
 final class ModelTest {
-    private static final int RUNS = 1500;
-    private static final int CALLS = 300;
+    private static final int RUNS = 4500;
+    /** More than one step of a run asks for. */
+    private static final int STEP_CALLS = 60;
     private static final Due due = new Due();
 
     private final Random random;
-    private final TakeDesk x = new TakeDesk();
+    private final Desk x = new Desk();
     private final Model m = new Model();
     private final int run;
     private int beats = 4;
@@ -34,7 +35,7 @@ final class ModelTest {
             newTake(t);
         }
         int before = due.wrong();
-        for (int call = 0; call < CALLS && due.wrong() == before; call++) {
+        while (x.left() >= STEP_CALLS && due.wrong() == before) {
             call(random.nextInt(34), takes);
         }
     }

@@ -11,7 +11,7 @@ final class ScoreTest {
     }
 
     private static void newObject() {
-        TakeDesk x = new TakeDesk();
+        Desk x = new Desk();
         for (int t = 0; t < 6; t++) {
             due.is("1: sample of a take of a new desk", x.sample(t, -1), Due.MISSING);
         }
@@ -39,7 +39,7 @@ final class ScoreTest {
     }
 
     private static void scoreItself() {
-        TakeDesk x = new TakeDesk();
+        Desk x = new Desk();
         due.is("2: score(0)", x.score(0), Due.BEYOND);
         due.is("2: score(-1)", x.score(-1), Due.BEYOND);
         due.is("2: score(25)", x.score(25), Due.BEYOND);
@@ -55,7 +55,7 @@ final class ScoreTest {
     }
 
     private static void scoreClearsAll() {
-        TakeDesk x = new TakeDesk();
+        Desk x = new Desk();
         x.beat(1, 5000, 7);
         x.bar(2, true);
         x.keep(1, 0);
@@ -103,7 +103,7 @@ final class ScoreTest {
     }
 
     private static void beatItself() {
-        TakeDesk x = new TakeDesk();
+        Desk x = new Desk();
         due.is("3: no beat 4", x.beat(4, 1, 1), Due.BEYOND);
         due.is("3: no beat -1", x.beat(-1, 1, 1), Due.BEYOND);
         due.is("3: loud below", x.beat(0, -1, 1), Due.BEYOND);

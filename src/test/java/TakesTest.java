@@ -16,7 +16,7 @@ final class TakesTest {
     }
 
     private static void takeWrong() {
-        TakeDesk x = new TakeDesk();
+        Desk x = new Desk();
         due.is("4: no take 6", x.take(6, 0, 0, 0, 0), Due.BEYOND);
         due.is("4: no take -1", x.take(-1, 0, 0, 0, 0), Due.BEYOND);
         due.is("4: no kind 5", x.take(0, 5, 0, 0, 0), Due.BEYOND);
@@ -44,7 +44,7 @@ final class TakesTest {
     }
 
     private static void takeAnew() {
-        TakeDesk x = new TakeDesk();
+        Desk x = new Desk();
         x.take(0, 0, 0, 0, 0);
         x.play(0, 100, 30, 1);
         x.mark(0, 0, 3);
@@ -63,7 +63,7 @@ final class TakesTest {
     }
 
     private static void tearItself() {
-        TakeDesk x = new TakeDesk();
+        Desk x = new Desk();
         due.is("5: no take 6", x.tear(6), Due.BEYOND);
         due.is("5: no take -1", x.tear(-1), Due.BEYOND);
         due.is("5: missing", x.tear(5), Due.MISSING);
@@ -75,7 +75,7 @@ final class TakesTest {
     }
 
     private static void playItself() {
-        TakeDesk x = new TakeDesk();
+        Desk x = new Desk();
         due.is("6: no take", x.play(6, -1, 101, 0), Due.BEYOND);
         due.is("6: g ahead of missing", x.play(0, -1, 101, 0), Due.BEYOND);
         due.is("6: g below", x.play(0, -1, -1, 0), Due.BEYOND);
@@ -112,7 +112,7 @@ final class TakesTest {
     }
 
     private static void copyItself() {
-        TakeDesk x = new TakeDesk();
+        Desk x = new Desk();
         due.is("7: no take s", x.copy(6, 0, 0, 0, 0), Due.BEYOND);
         due.is("7: no take t", x.copy(0, 0, 0, -1, 0), Due.BEYOND);
         due.is("7: num ahead of missing", x.copy(0, 0, -1, 1, 401), Due.BEYOND);
@@ -157,7 +157,7 @@ final class TakesTest {
     }
 
     private static void copyIsAChange() {
-        TakeDesk x = new TakeDesk();
+        Desk x = new Desk();
         x.take(0, 0, 0, 0, 0);
         x.take(1, 0, 0, 0, 0);
         x.play(0, 40, 0, 0);
@@ -170,7 +170,7 @@ final class TakesTest {
     }
 
     private static void putAndSample() {
-        TakeDesk x = new TakeDesk();
+        Desk x = new Desk();
         due.is("8: no take", x.put(6, 0, 0), Due.BEYOND);
         due.is("8: no take", x.put(-1, 0, 0), Due.BEYOND);
         due.is("8: missing ahead of beyond", x.put(0, 0, 101), Due.MISSING);
@@ -202,7 +202,7 @@ final class TakesTest {
     }
 
     private static void roomIsSilent() {
-        TakeDesk x = new TakeDesk();
+        Desk x = new Desk();
         x.take(0, 4, 0, 0, 0);
         x.take(1, 0, 0, 0, 0);
         x.play(0, 30, 100, 4);
@@ -222,7 +222,7 @@ final class TakesTest {
     }
 
     private static void asKinds() {
-        TakeDesk x = new TakeDesk();
+        Desk x = new Desk();
         due.is("10: no take", x.as(6, 0), Due.BEYOND);
         due.is("10: kind ahead of missing", x.as(0, 5), Due.BEYOND);
         due.is("10: kind below", x.as(0, -1), Due.BEYOND);
@@ -244,7 +244,7 @@ final class TakesTest {
     }
 
     private static void levelItself() {
-        TakeDesk x = new TakeDesk();
+        Desk x = new Desk();
         due.is("11: no take", x.level(-1, 0), Due.BEYOND);
         due.is("11: missing ahead of beyond", x.level(0, -1), Due.MISSING);
         x.take(0, 0, 0, 0, 0);

@@ -11,14 +11,14 @@ final class TellTest {
         due.end();
     }
 
-    private static void tellAll(TakeDesk x, int... numbers) {
+    private static void tellAll(Desk x, int... numbers) {
         for (int v : numbers) {
             x.tell(v);
         }
     }
 
     private static void tellItself() {
-        TakeDesk x = new TakeDesk();
+        Desk x = new Desk();
         for (int n = 1; n <= 30; n++) {
             due.is("30: tell", x.tell(n % 2 == 0 ? Integer.MIN_VALUE : Integer.MAX_VALUE), n);
         }
@@ -27,8 +27,8 @@ final class TellTest {
         due.is("31: none wait then", x.tell(0), 1);
     }
 
-    private static TakeDesk twoTakes() {
-        TakeDesk x = new TakeDesk();
+    private static Desk twoTakes() {
+        Desk x = new Desk();
         for (int t = 0; t < 2; t++) {
             x.take(t, 0, 0, 0, 0);
             x.play(t, 40, 0, 0);
@@ -41,13 +41,13 @@ final class TellTest {
         return x;
     }
 
-    private static void checkIs(String what, TakeDesk x, int want, int... numbers) {
+    private static void checkIs(String what, Desk x, int want, int... numbers) {
         tellAll(x, numbers);
         due.is("31: " + what, x.check(), want);
     }
 
     private static void checkBeats() {
-        TakeDesk x = twoTakes();
+        Desk x = twoTakes();
         checkIs("nothing told", x, 1);
         checkIs("one beat told", x, 2, 0);
         checkIs("three beats told", x, 4, 0, 0, 0);
@@ -67,7 +67,7 @@ final class TellTest {
     }
 
     private static void checkValues() {
-        TakeDesk x = twoTakes();
+        Desk x = twoTakes();
         x.mark(1, 2, 3);
         checkIs("no value", x, 100, 0, 0, 0, 0);
         checkIs("another value", x, 100, 0, 0, 0, 0, 3999);
@@ -84,7 +84,7 @@ final class TellTest {
     }
 
     private static void checkLongScore() {
-        TakeDesk x = new TakeDesk();
+        Desk x = new Desk();
         x.score(24);
         x.take(0, 4, 0, 0, 0);
         x.play(0, 240, 0, 0);
@@ -110,7 +110,7 @@ final class TellTest {
     }
 
     private static void foundItself() {
-        TakeDesk x = new TakeDesk();
+        Desk x = new Desk();
         for (int finding = Due.BARRED; finding <= Due.BEYOND; finding++) {
             due.is("32: nothing found", x.found(finding), 0);
         }

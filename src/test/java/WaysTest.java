@@ -16,8 +16,8 @@ final class WaysTest {
     }
 
     /** Silent takes of four frames; a join of two of them costs 1000 and the constant. */
-    private static TakeDesk silentTakes(int takes) {
-        TakeDesk x = new TakeDesk();
+    private static Desk silentTakes(int takes) {
+        Desk x = new Desk();
         for (int t = 0; t < takes; t++) {
             x.take(t, 0, 0, 0, 0);
             x.play(t, 40, 0, 0);
@@ -26,7 +26,7 @@ final class WaysTest {
         return x;
     }
 
-    private static void wayIs(String what, TakeDesk x, int... takes) {
+    private static void wayIs(String what, Desk x, int... takes) {
         int joins = 0;
         for (int b = 0; b < takes.length; b++) {
             due.is(what + ", take of beat " + b, x.way(b), takes[b]);
@@ -38,7 +38,7 @@ final class WaysTest {
     }
 
     private static void findingsOfWays() {
-        TakeDesk x = new TakeDesk();
+        Desk x = new Desk();
         due.is("23: k below", x.best(-1), Due.BEYOND);
         due.is("23: k above", x.best(20), Due.BEYOND);
         due.is("23: no takes", x.best(0), Due.NONE);
@@ -60,7 +60,7 @@ final class WaysTest {
     }
 
     private static void orderOfWays() {
-        TakeDesk x = silentTakes(2);
+        Desk x = silentTakes(2);
         for (int n = 0; n < 9; n++) {
             x.mark(0, 1, 3);
             x.mark(1, 2, 3);
@@ -88,7 +88,7 @@ final class WaysTest {
     }
 
     private static void alikeWays() {
-        TakeDesk x = silentTakes(3);
+        Desk x = silentTakes(3);
         x.set(2, 0);
         for (int b = 0; b < 4; b++) {
             due.is("23: a lovely beat", x.mark(1, b, 3), 1);
@@ -118,7 +118,7 @@ final class WaysTest {
     }
 
     private static void fewJoins() {
-        TakeDesk x = silentTakes(2);
+        Desk x = silentTakes(2);
         for (int n = 0; n < 9; n++) {
             x.mark(0, 0, 3);
             x.mark(1, 1, 3);
@@ -151,7 +151,7 @@ final class WaysTest {
     }
 
     private static void barsAndKeeps() {
-        TakeDesk x = silentTakes(3);
+        Desk x = silentTakes(3);
         x.keep(1, 1);
         due.is("22: a kept beat", x.best(0), 4000);
         wayIs("22: a kept beat", x, 1, 1, 1, 1);
@@ -180,7 +180,7 @@ final class WaysTest {
     }
 
     private static void partsMustJoin() {
-        TakeDesk x = new TakeDesk();
+        Desk x = new Desk();
         x.take(5, 1, 0, 1, 0);
         x.take(2, 2, 2, 3, 50);
         x.play(5, 20, 0, 0);
@@ -198,7 +198,7 @@ final class WaysTest {
 
     private static void wayEnds() {
         for (int act = 0; act < 13; act++) {
-            TakeDesk x = silentTakes(2);
+            Desk x = silentTakes(2);
             x.best(0);
             x.few(0);
             wayIs("25: ahead of act " + act, x, 0, 0, 0, 0);
@@ -213,7 +213,7 @@ final class WaysTest {
         }
     }
 
-    private static void act(TakeDesk x, int act) {
+    private static void act(Desk x, int act) {
         switch (act) {
             case 0: x.score(4); break;
             case 1: x.beat(0, 100, 3); break;
@@ -231,7 +231,7 @@ final class WaysTest {
         }
     }
 
-    private static void refusedActs(TakeDesk x) {
+    private static void refusedActs(Desk x) {
         due.is("2: refused", x.score(25), Due.BEYOND);
         due.is("3: refused", x.beat(0, -1, 1), Due.BEYOND);
         due.is("4: refused", x.take(5, 5, 0, 0, 0), Due.BEYOND);
@@ -250,7 +250,7 @@ final class WaysTest {
     }
 
     private static void wayStays() {
-        TakeDesk x = silentTakes(2);
+        Desk x = silentTakes(2);
         x.best(1);
         x.tell(3);
         x.check();
@@ -273,7 +273,7 @@ final class WaysTest {
     }
 
     private static void manyBeats() {
-        TakeDesk x = new TakeDesk();
+        Desk x = new Desk();
         x.score(24);
         for (int t = 0; t < 6; t++) {
             x.take(t, 0, 0, 0, 0);
