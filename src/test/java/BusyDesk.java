@@ -7,6 +7,9 @@ final class BusyDesk {
     static final int BEATS = 5;
     static final int[] SAMPLES = {95, 73, 88, 81, 71};
     static final int[] FRAMES = {10, 8, 9, 9, 8};
+    /** What THE WAY makes, and the best way with its value, whose first two beats are told. */
+    static final int MADE = 97;
+    static final int[] BEST = {1, 1, 2, 2, 2, 4853};
 
     private BusyDesk() {
     }
@@ -20,6 +23,8 @@ final class BusyDesk {
         takes(x);
         x.hand(0, 1, 3);
         x.hand(1, 2, 6);
+        x.hand(2, 3, 5);
+        x.hand(3, 0, 0);
         x.hand(4, 0, 1);
         x.mark(0, 2, 1);
         x.mark(1, 0, 3);
@@ -36,7 +41,7 @@ final class BusyDesk {
         x.bar(1, true);
         x.keep(0, 1);
         x.keep(4, 2);
-        x.best(3);
+        x.best(2);
         x.tell(1);
         x.tell(1);
     }

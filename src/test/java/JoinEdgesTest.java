@@ -11,10 +11,14 @@ final class JoinEdgesTest {
         windowToBothSides();
         windowByShift();
         samplesThatAreNotThere();
+        samplesOfATakeAnew();
         likenessOfSilence();
         shiftReaches();
         shiftOfSeveral();
         shiftIsByTheCutLikeness();
+        widestWindowAndReach();
+        joinsAtBeatZero();
+        settingsCountAtOnce();
         costAtItsEdges();
         levelsDiffer();
         takesOfAWay();
@@ -22,6 +26,7 @@ final class JoinEdgesTest {
         barsAndKeptBeats();
         orderOfAllAlike();
         orderByValue();
+        valueIsWorthsLessCosts();
         madeToTheEnd();
         madeOfRows();
         rampOfNone();
@@ -105,6 +110,41 @@ final class JoinEdgesTest {
         due.is(sentence + ": W 20, 20 ahead", x.like(0, 1, 1, -20), 0);
     }
 
+    /** A take's place is used again: what the old one had there isn't there now. */
+    private static void samplesOfATakeAnew() {
+        String sentence = "samples that aren't there are 0, of a take anew";
+        Desk x = new Desk();
+        x.set(1, 0);
+        x.set(3, 9);
+        x.beat(1, 100, 2);
+        x.take(0, TAKE, 0, 0, 0);
+        x.play(0, 400, 0, 0);
+        for (int i = 30; i < 50; i++) {
+            x.put(0, i, 100);
+        }
+        x.take(0, PART, 0, 1, 0);
+        x.play(0, 31, 0, 0);
+        x.hand(0, 0, 0);
+        x.hand(0, 1, 1);
+        x.take(1, PART, 2, 3, 0);
+        x.play(1, 20, 0, 0);
+        x.put(1, 1, 100);
+        layBoth(x);
+        due.is(sentence + ": like", x.like(0, 1, 2, 0), 0);
+        due.is(sentence + ": like, one silent sample", x.like(1, 1, 2, 0), 1000);
+        due.is(sentence + ": level", x.level(0, 3), 0);
+        due.is(sentence + ": cost", x.cost(0, 1, 2), 200 + 1000 + 1000);
+        x.best(0);
+        due.is(sentence + ": made", x.made(), 30 + 20);
+        due.is(sentence + ": the ramp", x.heard(31), 2 * 100 / 10);
+        due.is(sentence + ": the ramp", x.heard(32), 0);
+        x.take(0, PART, 0, 1, 0);
+        x.play(0, 30, 0, 0);
+        x.lay(0);
+        x.best(0);
+        due.is(sentence + ": one less", x.heard(30), 0);
+    }
+
     private static void likenessOfSilence() {
         Desk x = pair();
         x.put(1, START, 100);
@@ -177,6 +217,88 @@ final class JoinEdgesTest {
         due.is("LIKENESS, cut", x.like(0, 1, 2, 0), 999);
         due.is("LIKENESS, cut", x.like(0, 1, 2, 2), 999);
         due.is("alike when cut: the nearest to 0", x.shift(0, 1, 2), 0);
+    }
+
+    private static void widestWindowAndReach() {
+        String sentence = "W 20 and D 9";
+        for (int side : new int[] {-1, 1}) {
+            Desk x = pair();
+            x.set(0, 20);
+            x.set(1, 9);
+            int place = side < 0 ? START - 20 : START + 19;
+            x.put(0, place, 50);
+            x.put(1, place + 9 * side, 50);
+            layBoth(x);
+            due.is(sentence + ": shift", x.shift(0, 1, 2), 9 * side);
+            due.is(sentence + ": cost", x.cost(0, 1, 2), 200);
+            due.is(sentence + ": like", x.like(0, 1, 2, 9 * side), 1000);
+            due.is(sentence + ": like, no shift", x.like(0, 1, 2, 0), 0);
+        }
+        Desk x = new Desk();
+        x.set(0, 20);
+        x.set(1, 9);
+        for (int t = 0; t < 2; t++) {
+            x.take(t, TAKE, 0, 0, 0);
+            x.play(t, 80, 100, 4 + t);
+            x.lay(t);
+        }
+        for (int b = 0; b < 4; b++) {
+            int best = 0;
+            int greatest = x.like(0, 1, b, 0);
+            for (int far = 1; far <= 9; far++) {
+                for (int d : new int[] {-far, far}) {
+                    int likeness = x.like(0, 1, b, d);
+                    best = likeness > greatest ? d : best;
+                    greatest = Math.max(greatest, likeness);
+                }
+            }
+            due.is(sentence + ": the greatest of all", x.shift(0, 1, b), best);
+        }
+    }
+
+    private static void joinsAtBeatZero() {
+        Desk x = pair();
+        x.set(0, 1);
+        x.set(1, 2);
+        x.hand(0, 0, 1);
+        x.hand(0, 1, 2);
+        x.hand(1, 0, 2);
+        x.hand(1, 1, 3);
+        x.put(0, 10, 50);
+        x.put(1, 22, 50);
+        layBoth(x);
+        due.is("beat 0: like", x.like(0, 1, 0, 2), 1000);
+        due.is("beat 0: shift", x.shift(0, 1, 0), 2);
+        due.is("beat 0: cost", x.cost(0, 1, 0), 200);
+        x.put(1, 22, 0);
+        x.put(1, 19, 40);
+        x.lay(1);
+        due.is("beat 0, laid anew: shift", x.shift(0, 1, 0), -1);
+        due.is("beat 0, laid anew: cost", x.cost(0, 1, 0), 200 + 1000 - 2000 * 2000 / 4100 + 250);
+        x.put(0, 10, 40);
+        x.lay(0);
+        due.is("beat 0, the other laid anew: cost", x.cost(0, 1, 0), 200 + 160);
+    }
+
+    private static void settingsCountAtOnce() {
+        Desk x = pair();
+        x.put(0, START, 50);
+        x.put(1, START + 2, 50);
+        x.put(1, START - 4, 100);
+        layBoth(x);
+        x.set(0, 1);
+        due.is("17, W becomes 1: shift", x.shift(0, 1, 2), 2);
+        due.is("17, W becomes 1: cost", x.cost(0, 1, 2), 200);
+        x.set(0, 20);
+        due.is("17, W becomes 20: shift", x.shift(0, 1, 2), 2);
+        due.is("17, W becomes 20: cost", x.cost(0, 1, 2), 200 + 1000 - 2000 * 2500 / 15000);
+        x.set(1, 1);
+        due.is("17, D becomes 1: shift", x.shift(0, 1, 2), 0);
+        due.is("17, D becomes 1: cost", x.cost(0, 1, 2), 200 + 1000);
+        x.set(1, 9);
+        x.set(2, 0);
+        due.is("17, D becomes 9: shift", x.shift(0, 1, 2), -4);
+        due.is("17, the constant becomes 0: cost", x.cost(0, 1, 2), 1000 - 2000 * 5000 / 15000);
     }
 
     private static void costAtItsEdges() {
@@ -350,6 +472,36 @@ final class JoinEdgesTest {
         due.is("VALUES below 0", x.way(0), 0);
         due.is("VALUES below 0, with a join", x.best(3), 4000 - 4 * 2700 + 200 - 1200);
         due.is("VALUES below 0, with a join: few", x.few(0), 4000 - 4 * 2700 + 200);
+    }
+
+    /** Takes that sound, so that no two joins cost the same. */
+    private static void valueIsWorthsLessCosts() {
+        Desk x = new Desk();
+        for (int t = 0; t < 3; t++) {
+            x.take(t, TAKE, 0, 0, 0);
+            x.play(t, 70 + t, 80, 31 + t);
+            x.mark(t, t, 3);
+            x.lay(t);
+        }
+        int[] way = {0, 1, 2, 0};
+        int value = 0;
+        for (int b = 0; b < 4; b++) {
+            x.keep(b, way[b]);
+            value += x.worth(way[b], b);
+            if (b > 0) {
+                int cost = x.cost(way[b - 1], way[b], b);
+                due.holds("another cost the other way", cost != x.cost(way[b], way[b - 1], b));
+                due.holds("another cost at the beat ahead", cost != x.cost(way[b - 1], way[b], b - 1));
+                value -= cost;
+            }
+        }
+        due.is("VALUE: the sum of WORTHS less that of COSTS", x.best(0), value);
+        due.is("VALUE: the same of few", x.few(3), value);
+        for (int t : way) {
+            x.tell(t);
+        }
+        x.tell(value);
+        due.is("VALUE: the same of check", x.check(), 0);
     }
 
     private static void madeToTheEnd() {
@@ -552,6 +704,11 @@ final class JoinEdgesTest {
         x.best(0);
         due.is("what isn't there of that is left out: behind its end", x.made(), 25 + 20);
         due.is(sentence + ": far behind its end", x.heard(25), 100 / 5);
+        x.put(1, 0, 1);
+        x.lay(1);
+        x.set(3, 9);
+        x.best(0);
+        due.is(sentence + ": nothing at all of it", x.heard(25), 1 / 10);
     }
 
     private static void rampIsCutDown() {

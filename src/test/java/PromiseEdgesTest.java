@@ -435,7 +435,7 @@ final class PromiseEdgesTest {
         Twin.Act[] asks = {
             x -> x.sample(0, -1), x -> x.sample(0, 94), x -> x.as(4, 3), x -> x.level(0, 9), x -> x.frame(2, 4),
             x -> x.worth(3, 3), x -> x.like(0, 1, 2, 20), x -> x.shift(1, 2, 3), x -> x.cost(1, 2, 3), x -> x.way(4),
-            Desk::joins, Desk::made, x -> x.heard(114), x -> x.from(114, 3), x -> x.found(Due.BARRED),
+            Desk::joins, Desk::made, x -> x.heard(BusyDesk.MADE - 1), x -> x.from(0, 3), x -> x.found(Due.BARRED),
         };
         for (int n = 0; n < asks.length; n++) {
             twin.leaves("asking changes nothing: " + n, BusyDesk::make, asks[n], answer(asks[n]), "");

@@ -267,8 +267,8 @@ final class RefusedJoinsTest {
     }
 
     private static void made() {
-        due.is("27: the busy desk", answerBehind(x -> { }, Desk::made), 115);
-        for (int i : new int[] {-1, 115, LOW, HIGH}) {
+        due.is("27: the busy desk", answerBehind(x -> { }, Desk::made), BusyDesk.MADE);
+        for (int i : new int[] {-1, BusyDesk.MADE, LOW, HIGH}) {
             no("28, BEYOND: there is none such: " + i, x -> x.heard(i), Due.BEYOND);
             for (int what = 0; what < 4; what++) {
                 int which = what;
@@ -283,19 +283,12 @@ final class RefusedJoinsTest {
     private static void tell() {
         Twin.Acts full = x -> {
             for (int n = 2; n < 30; n++) {
-                x.tell(n);
+                x.tell(n < BusyDesk.BEST.length ? BusyDesk.BEST[n] : n);
             }
         };
+        due.is("31: a way, its value and more", answerBehind(full, Desk::check), 101);
         noBehind("30, FULL: 30 wait", full, x -> x.tell(0), Due.FULL);
-        twin.refused("30, FULL: 30 that are a way and more", x -> {
-            BusyDesk.make(x);
-            for (int v : new int[] {2, 2, 2, 5082}) {
-                x.tell(v);
-            }
-            for (int n = 6; n < 30; n++) {
-                x.tell(n);
-            }
-        }, x -> x.tell(1), Due.FULL);
+        noBehind("30, FULL: 30 wait, any number", full, x -> x.tell(LOW), Due.FULL);
     }
 
     private static void found() {

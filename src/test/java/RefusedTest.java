@@ -78,26 +78,35 @@ final class RefusedTest {
         for (int t : new int[] {-1, 6, LOW, HIGH}) {
             no("4, BEYOND: there is no such take: " + t, x -> x.take(t, 0, 0, 0, 0), Due.BEYOND);
         }
-        for (int kind : new int[] {-1, 5, LOW, HIGH}) {
-            no("4, BEYOND: kind isn't 0 .. 4: " + kind, x -> x.take(0, kind, 0, 0, 0), Due.BEYOND);
-            no("4, BEYOND: kind isn't 0 .. 4, of none: " + kind, x -> x.take(5, kind, 0, 0, 0), Due.BEYOND);
+        for (int t = 0; t < 6; t++) {
+            takeKinds(t);
+            takeBeats(t);
         }
+        no("4, BEYOND ahead of all else", x -> x.take(6, 5, 4, 3, 1001), Due.BEYOND);
+    }
+
+    private static void takeKinds(int t) {
+        for (int kind : new int[] {-1, 5, LOW, HIGH}) {
+            no("4, BEYOND: kind isn't 0 .. 4: " + kind, x -> x.take(t, kind, 0, 0, 0), Due.BEYOND);
+        }
+        for (int more : new int[] {-1, 1001, LOW, HIGH}) {
+            no("4, BEYOND: more isn't 0 .. 1000: " + more, x -> x.take(t, 2, 0, 1, more), Due.BEYOND);
+        }
+    }
+
+    private static void takeBeats(int t) {
         for (int kind = 1; kind <= 2; kind++) {
             int told = kind;
             for (int from : new int[] {-1, LOW}) {
-                no("4, BEYOND: from isn't a beat: " + from, x -> x.take(0, told, from, 2, 0), Due.BEYOND);
+                no("4, BEYOND: from isn't a beat: " + from, x -> x.take(t, told, from, 2, 0), Due.BEYOND);
+                no("4, BEYOND: neither is a beat: " + from, x -> x.take(t, told, from, -1, 0), Due.BEYOND);
             }
             for (int to : new int[] {BusyDesk.BEATS, HIGH}) {
-                no("4, BEYOND: to isn't a beat: " + to, x -> x.take(0, told, 2, to, 0), Due.BEYOND);
-                no("4, BEYOND: neither is a beat: " + to, x -> x.take(0, told, to, to, 0), Due.BEYOND);
+                no("4, BEYOND: to isn't a beat: " + to, x -> x.take(t, told, 2, to, 0), Due.BEYOND);
+                no("4, BEYOND: neither is a beat: " + to, x -> x.take(t, told, to, to, 0), Due.BEYOND);
             }
-            no("4, BEYOND: from above to", x -> x.take(0, told, 2, 1, 0), Due.BEYOND);
-            no("4, BEYOND: from far above to", x -> x.take(1, told, 4, 0, 0), Due.BEYOND);
-            no("4, BEYOND: from above to, of none", x -> x.take(5, told, 1, 0, 0), Due.BEYOND);
-            no("4, BEYOND: neither, below", x -> x.take(0, told, -1, -1, 0), Due.BEYOND);
-        }
-        for (int more : new int[] {-1, 1001, LOW, HIGH}) {
-            no("4, BEYOND: more isn't 0 .. 1000: " + more, x -> x.take(2, 2, 0, 1, more), Due.BEYOND);
+            no("4, BEYOND: from above to", x -> x.take(t, told, 2, 1, 0), Due.BEYOND);
+            no("4, BEYOND: from far above to", x -> x.take(t, told, 4, 0, 0), Due.BEYOND);
         }
     }
 

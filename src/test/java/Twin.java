@@ -35,19 +35,30 @@ final class Twin {
 
     /** The call answers the finding, and nothing but the count of that finding differs behind it. */
     void refused(String sentence, Acts before, Act act, int finding) {
-        answersAndLeaves(sentence, before, act, finding, "");
+        if (!answers(sentence, before, act, finding)) {
+            return;
+        }
+        seesNoChange(sentence, before, act, "");
         due.is(sentence + ": how many such findings", foundMore(before, act, finding), 1);
         due.is(sentence + ": how many findings", foundMore(before, act, 0), 1);
     }
 
     /** The call answers so, and nothing differs behind it but the looks whose names begin so. */
     void leaves(String sentence, Acts before, Act act, int answer, String but) {
-        answersAndLeaves(sentence, before, act, answer, but);
+        if (!answers(sentence, before, act, answer)) {
+            return;
+        }
+        seesNoChange(sentence, before, act, but);
         due.is(sentence + ": how many findings", foundMore(before, act, 0), 0);
     }
 
-    private void answersAndLeaves(String sentence, Acts before, Act act, int answer, String but) {
-        due.is(sentence, act.on(made(before)), answer);
+    private boolean answers(String sentence, Acts before, Act act, int answer) {
+        int got = act.on(made(before));
+        due.is(sentence, got, answer);
+        return got == answer;
+    }
+
+    private void seesNoChange(String sentence, Acts before, Act act, String but) {
         for (Map.Entry<String, Look> look : LOOKS.entrySet()) {
             if (but.isEmpty() || !look.getKey().startsWith(but)) {
                 Desk asked = made(before);
@@ -115,7 +126,8 @@ final class Twin {
             int what = which;
             looks.put(THE_WAY + ", from " + what, (x, seen) -> eachMade(x, i -> seen.add(x.from(i, what))));
         }
-        looks.put(WAITING, Twin::waiting);
+        looks.put(WAITING, (x, seen) -> seen.add(x.check()));
+        looks.put(WAITING + ", how many", (x, seen) -> seen.add(x.tell(0)));
         looks.put(WAITING + ", told on", Twin::toldOn);
         return looks;
     }
@@ -211,12 +223,6 @@ final class Twin {
         }
         seen.add(x.joins());
         seen.add(x.made());
-    }
-
-    private static void waiting(Desk x, List<Integer> seen) {
-        seen.add(x.tell(0));
-        seen.add(x.check());
-        seen.add(x.tell(0));
     }
 
     /** The best way behind its first two beats and its value: what waits ahead of that is seen by check(). */
