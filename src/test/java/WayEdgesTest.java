@@ -14,6 +14,7 @@ final class WayEdgesTest {
         bestOfNineteen();
         bestOfSix();
         fewAtItsEdges();
+        fewAndBestOfAllTakes();
         wayAtItsEdges();
         wayIsGoneBehindEachAct();
         wayStaysBehindRefusedActs();
@@ -151,6 +152,28 @@ final class WayEdgesTest {
         x = silentTakes(1, 2);
         due.is("24, one beat", x.few(0), 1000);
         due.is("24, one beat", x.few(HIGH), 1000);
+    }
+
+    /** 24 beats with six takes in turn, from each of them on: all joins that can be, with none to spare. */
+    private static void fewAndBestOfAllTakes() {
+        for (int first = 0; first < 6; first++) {
+            Desk x = silentTakes(24, 6);
+            for (int b = 0; b < 24; b++) {
+                x.keep(b, (first + b) % 6);
+            }
+            due.is("24, 23 joins from take " + first, x.few(23), 24000 - 23 * 1200);
+            due.is("24, 23 joins: the last beat", x.way(23), (first + 23) % 6);
+            due.is("24, 22 joins from take " + first, x.few(22), Due.NONE);
+            due.is("23, 23 joins from take " + first, x.best(0), 24000 - 23 * 1200);
+            due.is("23, one way alone", x.best(1), Due.NONE);
+            x.keep(23, FREE);
+            for (int k = 0; k < 6; k++) {
+                due.is("23, six ways from take " + first, x.best(k), 24000 - (k == 0 ? 22 : 23) * 1200);
+            }
+            due.is("23, six ways: the last one", x.way(23), (first + 22) % 6 == 5 ? 4 : 5);
+            due.is("23, no seventh", x.best(6), Due.NONE);
+            due.is("24, 22 joins, the last beat free", x.few(22), 24000 - 22 * 1200);
+        }
     }
 
     private static void wayAtItsEdges() {
