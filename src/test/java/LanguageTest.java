@@ -114,6 +114,30 @@ final class LanguageTest {
             due.holds("library: " + calls.group(), List.of(LIBRARY).contains(calls.group()));
         }
         methodLengths(whole.split("\n"));
+        onlyConstructorsMake(code.split("\n"));
+    }
+
+    /** All calls of a run share one room: what a desk needs is made with it, so that no call can fill the room. */
+    private static void onlyConstructorsMake(String[] lines) {
+        Pattern head = Pattern.compile("^( {4}| {8})(public |private )?(static )?([A-Za-z].*)\\) \\{$");
+        Pattern constructor = Pattern.compile("[A-Z]\\w*\\(.*");
+        Pattern makes = Pattern.compile("\\bnew\\b|\\bclone\\(|\\bcopyOf");
+        String indent = null;
+        boolean mayMake = false;
+        int constructors = 0;
+        for (String line : lines) {
+            Matcher opens = head.matcher(line);
+            if (indent == null && opens.matches()) {
+                indent = opens.group(1);
+                mayMake = constructor.matcher(opens.group(4)).matches();
+                constructors += mayMake ? 1 : 0;
+            } else if (indent != null && line.equals(indent + "}")) {
+                indent = null;
+            } else if (indent != null && !mayMake) {
+                due.holds("no method makes an object: " + line.trim(), !makes.matcher(line).find());
+            }
+        }
+        due.holds("the constructors are seen", constructors > 0);
     }
 
     private static void methodLengths(String[] lines) {
